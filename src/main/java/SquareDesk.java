@@ -11,13 +11,13 @@ public final class SquareDesk {
     private static final int GREATEST_N = 120;
     private static final int GREATEST_K = 9;
     private static final int GREATEST_Y = 3000;
-    private static final int LAST_TERM = 100;
+    private static final int TERM_COUNT = 101;
 
     // The greatest number whose root is sought is 120 * 3000 * 3000 + 9: its root,
     // rounded down, is 32863, which just needs this bit.
     private static final int HIGHEST_ROOT_BIT = 1 << 15;
 
-    private final int[] terms = new int[LAST_TERM + 1];
+    private final int[] terms = new int[TERM_COUNT];
     private int n;
     private int periodLength;
 
@@ -36,7 +36,7 @@ public final class SquareDesk {
     }
 
     public int term(int number) {
-        if (number < 0 || number > LAST_TERM) {
+        if (number < 0 || number >= TERM_COUNT) {
             return REFUSED;
         }
         return terms[number];
@@ -118,7 +118,7 @@ public final class SquareDesk {
         int firstM = 0;
         int firstD = 0;
         periodLength = 0;
-        for (int i = 0; i <= LAST_TERM && d > 0; i++) {
+        for (int i = 0; i < TERM_COUNT && d > 0; i++) {
             int t = (r + m) / d;
             terms[i] = t;
             m = t * d - m;
