@@ -1,27 +1,18 @@
-/** Each promise of the document by hand: ordinary inputs, named edges, wrong inputs. */
+/** Each promise of the document by hand with ordinary inputs; BoundariesTest has the edges and the wrong inputs. */
 public final class PromisesTest {
-    private static final int[] WILD = {
-        Integer.MIN_VALUE, Integer.MIN_VALUE + 1, -65536, -46341, 46341, 65536, 1 << 30, Integer.MAX_VALUE
-    };
-
     private static int wrong = 0;
 
     public static void main(String[] args) {
         newObject();
         set();
-        refusedSetChangesNothing();
         term();
         period();
         solutions();
         next();
         root();
         sum();
-        refusalsOfK();
-        refusalsOfTheSecondArgument();
-        orderOfRefusals();
         objectsAreApart();
         callsThatAskChangeNothing();
-        lastPromisedCall();
         System.out.println(wrong == 0 ? "all answers are as due" : wrong + " answers are not as due");
         if (wrong != 0) {
             System.exit(1);
@@ -65,29 +56,10 @@ public final class PromisesTest {
                 || n == 49 || n == 64 || n == 81 || n == 100;
             due("set(" + n + ")", desk.set(n), n < 2 || n > 120 || square ? -1 : 0);
         }
-        for (int n : WILD) {
-            due("set(" + n + ")", desk.set(n), -1);
-        }
         due("after 120: root(1, 1)", desk.root(1, 1), 11);
         due("set(2)", desk.set(2), 0);
         due("set(2) again", desk.set(2), 0);
         due("after 2: root(1, 2)", desk.root(1, 2), 3);
-    }
-
-    private static void refusedSetChangesNothing() {
-        SquareDesk desk = desk(61);
-        int[] refused = {4, 9, 100, 0, 1, -61, 121, 122, Integer.MIN_VALUE, Integer.MAX_VALUE};
-        for (int n : refused) {
-            String when = "61, then set(" + n + "): ";
-            due(when, desk.set(n), -1);
-            due(when + "period()", desk.period(), 11);
-            due(when + "term(0)", desk.term(0), 7);
-            due(when + "term(11)", desk.term(11), 14);
-            due(when + "root(4, 195)", desk.root(4, 195), 1523);
-            due(when + "solutions(4, 3000)", desk.solutions(4, 3000), 2);
-            due(when + "next(5, 0)", desk.next(5, 0), 58);
-            due(when + "sum(-4, 3000)", desk.sum(-4, 3000), 5);
-        }
     }
 
     // Promise 3
@@ -100,11 +72,6 @@ public final class PromisesTest {
         }
         due("7: term(99)", desk.term(99), 1);
         due("7: term(100)", desk.term(100), 4);
-        due("7: term(101)", desk.term(101), -1);
-        due("7: term(-1)", desk.term(-1), -1);
-        for (int number : WILD) {
-            due("7: term(" + number + ")", desk.term(number), -1);
-        }
         due("set(120)", desk.set(120), 0);
         due("120: term(0)", desk.term(0), 10);
         due("120: term(1)", desk.term(1), 1);
@@ -193,80 +160,6 @@ public final class PromisesTest {
         due("82: sum(-9, 3000)", desk(82).sum(-9, 3000), 978);
     }
 
-    // Promises 5 to 8: what is refused
-
-    private static void dueAll(String when, SquareDesk desk, int k, int y, int want) {
-        String with = when + "(" + k + ", " + y + ")";
-        due(with + " solutions", desk.solutions(k, y), want);
-        due(with + " next", desk.next(k, y), want);
-        due(with + " root", desk.root(k, y), want);
-        due(with + " sum", desk.sum(k, y), want);
-    }
-
-    private static void dueNoneRefused(String when, SquareDesk desk, int k, int y) {
-        String with = when + "(" + k + ", " + y + ")";
-        due(with + " solutions", desk.solutions(k, y) == -1 ? 1 : 0, 0);
-        due(with + " next", desk.next(k, y) == -1 ? 1 : 0, 0);
-        due(with + " root", desk.root(k, y) == -1 ? 1 : 0, 0);
-        due(with + " sum", desk.sum(k, y) == -1 ? 1 : 0, 0);
-    }
-
-    private static void refusalsOfK() {
-        SquareDesk desk = desk(120);
-        for (int k = -12; k <= 12; k++) {
-            if (k < -9 || k > 9 || k == 0) {
-                dueAll("120: ", desk, k, 5, -1);
-            } else {
-                dueNoneRefused("120: ", desk, k, 5);
-            }
-        }
-        for (int k : WILD) {
-            dueAll("120: ", desk, k, 5, -1);
-        }
-        // On each side of the square of 9, of 3 and of 2.
-        dueAll("80: ", desk(80), 9, 3, -1);
-        dueAll("80: ", desk(80), -9, 3, -1);
-        dueNoneRefused("80: ", desk(80), 8, 3);
-        dueNoneRefused("80: ", desk(80), -8, 3);
-        dueNoneRefused("82: ", desk(82), 9, 3);
-        dueNoneRefused("82: ", desk(82), -9, 3);
-        dueAll("8: ", desk(8), 3, 3, -1);
-        dueAll("8: ", desk(8), -3, 3, -1);
-        dueNoneRefused("10: ", desk(10), 3, 3);
-        dueNoneRefused("10: ", desk(10), -3, 3);
-        dueAll("3: ", desk(3), -2, 1, -1);
-        dueAll("2: ", desk(2), 2, 1, -1);
-        dueNoneRefused("5: ", desk(5), -2, 1);
-    }
-
-    private static void refusalsOfTheSecondArgument() {
-        SquareDesk desk = desk(13);
-        dueAll("13: ", desk, 3, -1, -1);
-        dueAll("13: ", desk, 3, 3001, -1);
-        for (int y : WILD) {
-            dueAll("13: ", desk, 3, y, -1);
-        }
-        dueNoneRefused("13: ", desk, 3, 0);
-        dueNoneRefused("13: ", desk, 3, 3000);
-    }
-
-    // Promise 9
-
-    private static void orderOfRefusals() {
-        // -2 would be due for each of these, were they not refused.
-        SquareDesk desk = desk(7);
-        due("7: root(3, 1)", desk.root(3, 1), -1);
-        due("7: next(5, 0)", desk.next(5, 0), -1);
-        due("7: next(1, 3001)", desk.next(1, 3001), -1);
-        due("7: next(-1, -1)", desk.next(-1, -1), -1);
-        due("7: next(-1, 0)", desk.next(-1, 0), -2);
-        due("7: root(-1, -1)", desk.root(-1, -1), -1);
-        due("7: root(-1, 3001)", desk.root(-1, 3001), -1);
-        due("7: root(-1, 3000)", desk.root(-1, 3000), -2);
-        due("7: next(0, 3001)", desk.next(0, 3001), -1);
-        due("7: root(10, -1)", desk.root(10, -1), -1);
-    }
-
     // The state
 
     private static void objectsAreApart() {
@@ -289,16 +182,6 @@ public final class PromisesTest {
             due("13: sum(3, 3000)", desk.sum(3, 3000), 1441);
             due("13: term(5)", desk.term(5), 6);
             due("13: period()", desk.period(), 5);
-            due("13: root(4, 1)", desk.root(4, 1), -1);
-            due("13: term(101)", desk.term(101), -1);
         }
-    }
-
-    private static void lastPromisedCall() {
-        SquareDesk desk = new SquareDesk();
-        for (int call = 1; call <= 511; call++) {
-            desk.set(call % 2 == 0 ? 94 : 61);
-        }
-        due("call 512, with 61: period()", desk.period(), 11);
     }
 }
